@@ -587,6 +587,14 @@ public final class PromisesTest {
     due(13, "run without FUEL", x.run(r, 0, 0, 0, 0), FULL);
     due(13, "run(1), all FUEL taken", x.run(1, 0, 0, 0, 1), BAD);
     due(13, "ran(1) of the latest one", x.ran(1), 2000);
+    CallMelt y = new CallMelt();
+    y.routine(0);
+    y.body(0, loop(y, y.number(1), y.number(1)));
+    for (int i = 0; i < 30; i++) {
+      due(13, "run " + i, y.run(0, 0, 0, 0, i == 0 ? 1999 : 2000), 4);
+    }
+    due(13, "at 59999", y.run(0, 0, 0, 0, 1), 4);
+    due(13, "at 60000", y.run(0, 0, 0, 0, 1), FULL);
   }
 
   private static void promise14() {
