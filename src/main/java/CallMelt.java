@@ -803,7 +803,6 @@ public final class CallMelt {
     private void refuse(int why, int step) {
       refusal = why;
       refused = step;
-      value = 0;
     }
 
     private boolean pay(int step, int cost) {

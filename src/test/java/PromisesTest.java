@@ -1,108 +1,15 @@
 /** For each promise of the document: ordinary inputs, the edges that it names, wrong inputs. */
-public final class PromisesTest {
-  private static final int BAD = CallMelt.BAD, NO = CallMelt.NO;
-  private static final int FULL = CallMelt.FULL, NONE = CallMelt.NONE;
-  private static final int STRANGE = -1000000000;
-  private static final int LEAST = Integer.MIN_VALUE, MOST = Integer.MAX_VALUE;
-  private static final int PICK = 3, BOTH = 5, LEAVE = 7, WHILE = 8, REACH = 9, LAY = 10;
-
-  private static int wrong = 0;
-
-  public static void main(String[] args) {
-    promise1();
-    promise2();
-    promise3();
-    promise4();
-    promise5();
-    promise6();
-    promise7();
-    promise8();
-    promise9();
-    promise10();
-    promise11();
-    promise12();
-    promise13Values();
-    promise13Cost();
-    promise13Leaves();
-    promise13Refused();
-    promise13Full();
-    promise14();
-    promise15And16();
-    promise17();
-    promise18Shape();
-    promise18OfItself();
-    promise18Refused();
-    promise19();
-    promise20();
-    promise21Rules();
-    promise21Fixed();
-    promise21Blocks();
-    promise21Order();
-    promise21Full();
-    promise22();
-    promise23();
-    promise23Kept();
-    promise24();
-    promise24Ties();
-    promise24Twelve();
-    promise25();
-    promise26();
-    promise27();
-    System.out.println(wrong == 0 ? "all promises are kept" : wrong + " answers are not as due");
-    if (wrong != 0) {
-      System.exit(1);
-    }
+public final class PromisesTest extends Tests {
+  public static void main(String[] args) throws ReflectiveOperationException {
+    runAll(PromisesTest.class);
   }
 
   private static void due(int promise, String what, int got, int want) {
-    if (got != want) {
-      wrong++;
-      System.out.println("promise " + promise + ": " + what + " answered " + got + ", due is " + want);
-    }
+    says("promise " + promise);
+    due(what, got, want);
   }
 
   // ---- trees
-
-  private static int both(CallMelt x, int first, int second) {
-    return x.join(BOTH, 0, first, second);
-  }
-
-  private static int pick(CallMelt x, int t, int yes, int no) {
-    return x.join(PICK, t, yes, no);
-  }
-
-  private static int leave(CallMelt x, int value) {
-    return x.join(LEAVE, 0, value, 0);
-  }
-
-  private static int loop(CallMelt x, int t, int body) {
-    return x.join(WHILE, 0, t, body);
-  }
-
-  private static int reach(CallMelt x, int i) {
-    return x.join(REACH, 0, i, 0);
-  }
-
-  private static int lays(CallMelt x, int i, int v) {
-    return x.join(LAY, 0, i, v);
-  }
-
-  /** SET 0 of SET 0 of .. a NUMBER, as HIGH as asked for. */
-  private static int high(CallMelt x, int high) {
-    int step = x.number(1);
-    for (int level = 1; level < high; level++) {
-      step = x.set(0, step);
-    }
-    return step;
-  }
-
-  /** What an ACT of two NUMBERS comes to in a run. */
-  private static int ran(int op, int x, int y) {
-    CallMelt melt = new CallMelt();
-    int r = melt.routine(2);
-    melt.body(r, melt.act(op, melt.name(0), melt.name(1)));
-    return melt.run(r, x, y, 0, 9) == 0 ? melt.ran(0) : STRANGE;
-  }
 
   /** A routine 0 without BODY and a routine 1: its one NAME and 1 more. */
   private static CallMelt withNextOf() {
@@ -141,9 +48,8 @@ public final class PromisesTest {
     due(2, "told(2, 1)", x.told(2, 1), MOST);
     due(2, "told(2, 0)", x.told(2, 0), 0);
     due(2, "told(2, 2)", x.told(2, 2), NONE);
-    for (int step = 3; step < 600; step++) {
-      due(2, "number(" + step + ")", x.number(step), step);
-    }
+    fill(x, 599);
+    due(2, "number() of a 600th", x.number(0), 599);
     due(2, "number() of a 601st", x.number(0), FULL);
     due(2, "count(0)", x.count(0), 600);
   }
@@ -157,9 +63,8 @@ public final class PromisesTest {
     due(3, "name(least)", x.name(LEAST), BAD);
     due(3, "told(1, 0)", x.told(1, 0), 1);
     due(3, "told(1, 1)", x.told(1, 1), 39);
-    while (x.count(0) < 600) {
-      x.name(1);
-    }
+    fill(x, 599);
+    due(3, "name() of a 600th", x.name(0), 599);
     due(3, "name() of a 601st", x.name(0), FULL);
     due(3, "name(40), of a 601st", x.name(40), BAD);
   }
@@ -237,9 +142,7 @@ public final class PromisesTest {
     int h = high(y, 40);
     due(5, "join(7) 41 HIGH", y.join(LEAVE, 0, h, 0), FULL);
     due(5, "join(3) 41 HIGH", y.join(PICK, y.number(1), y.number(1), h), FULL);
-    while (y.count(0) < 600) {
-      y.number(1);
-    }
+    fill(y, 600);
     due(5, "join(5) of a 601st", y.join(BOTH, 0, 598, 599), FULL);
     due(5, "join(5) of one twice, of a 601st", y.join(BOTH, 0, 598, 598), BAD);
   }
@@ -257,9 +160,7 @@ public final class PromisesTest {
     int h = high(x, 40);
     due(6, "told(h, 8)", x.told(h, 8), 40);
     due(6, "set() 41 HIGH", x.set(0, h), FULL);
-    while (x.count(0) < 600) {
-      x.number(1);
-    }
+    fill(x, 600);
     due(6, "set() of a 601st", x.set(0, 599), FULL);
   }
 
@@ -288,9 +189,7 @@ public final class PromisesTest {
     due(7, "told(4, 3)", x.told(4, 3), 1);
     due(7, "told(4, 4)", x.told(4, 4), a);
     due(7, "call(1) 41 HIGH", x.call(1, high(x, 40), 0, 0), FULL);
-    while (x.count(0) < 600) {
-      x.number(1);
-    }
+    fill(x, 600);
     due(7, "call(0) of a 601st", x.call(0, 0, 0, 0), FULL);
   }
 
@@ -424,17 +323,17 @@ public final class PromisesTest {
   // ---- runs
 
   private static void promise13Values() {
-    due(13, "sum", ran(0, MOST, 1), LEAST);
-    due(13, "difference", ran(1, LEAST, 1), MOST);
-    due(13, "product", ran(2, 65536, 65537), 65536);
-    due(13, "quotient", ran(3, -7, 2), -3);
-    due(13, "quotient", ran(3, 7, -2), -3);
-    due(13, "quotient of the least by -1", ran(3, LEAST, -1), LEAST);
-    due(13, "below", ran(4, LEAST, MOST), 1);
-    due(13, "below, alike", ran(4, 5, 5), 0);
-    due(13, "below, above", ran(4, 6, 5), 0);
-    due(13, "the same", ran(5, -5, -5), 1);
-    due(13, "not the same", ran(5, -5, 5), 0);
+    due(13, "sum", ranAct(0, MOST, 1), LEAST);
+    due(13, "difference", ranAct(1, LEAST, 1), MOST);
+    due(13, "product", ranAct(2, 65536, 65537), 65536);
+    due(13, "quotient", ranAct(3, -7, 2), -3);
+    due(13, "quotient", ranAct(3, 7, -2), -3);
+    due(13, "quotient of the least by -1", ranAct(3, LEAST, -1), LEAST);
+    due(13, "below", ranAct(4, LEAST, MOST), 1);
+    due(13, "below, alike", ranAct(4, 5, 5), 0);
+    due(13, "below, above", ranAct(4, 6, 5), 0);
+    due(13, "the same", ranAct(5, -5, -5), 1);
+    due(13, "not the same", ranAct(5, -5, 5), 0);
     CallMelt x = new CallMelt();
     int r = x.routine(3);
     // NAME 3 is 0 in each call; SET answers its value; PICK does one alone.
@@ -777,9 +676,7 @@ public final class PromisesTest {
     int gap = x.routine(0);
     x.body(0, both(x, call, x.call(gap, 0, 0, 0)));
     due(18, "melt() of a MISSING one", x.melt(call + 1), NO);
-    while (x.count(0) < 595) {
-      x.number(0);
-    }
+    fill(x, 595);
     // BOTH, SET, BLOCK and three more: six are too many for 595, not for 594.
     due(18, "melt(), 601 STEPS", x.melt(call), FULL);
     due(18, "count(0)", x.count(0), 595);
@@ -788,13 +685,9 @@ public final class PromisesTest {
     CallMelt y = withNextOf();
     int last = y.call(1, y.number(1), 0, 0);
     y.body(0, last);
-    while (y.count(0) < 594) {
-      y.number(0);
-    }
+    fill(y, 594);
     due(18, "melt(), 600 STEPS", y.melt(last), 594);
     due(18, "count(0)", y.count(0), 600);
-    promise18Names();
-    promise18High();
   }
 
   private static void promise18Names() {
@@ -1033,12 +926,11 @@ public final class PromisesTest {
     int two = x.act(0, x.number(3), x.number(4));
     int all = lays(x, one, two);
     x.body(r, all);
-    while (x.count(0) < 599) {
-      x.number(0);
-    }
+    fill(x, 599);
+    int gone = x.count(1);
     due(21, "ahead() to 601 STEPS", x.ahead(r), FULL);
     due(21, "count(0)", x.count(0), 599);
-    due(21, "count(1)", x.count(1), 0);
+    due(21, "count(1)", x.count(1), gone);
     due(21, "told(all, 2)", x.told(all, 2), one);
     due(21, "told(one, 0)", x.told(one, 0), 2);
     due(21, "told(one, 2)", x.told(one, 2), 0);
@@ -1050,9 +942,7 @@ public final class PromisesTest {
     int s = y.routine(0);
     int last = y.act(0, y.number(1), y.number(2));
     y.body(s, last);
-    while (y.count(0) < 599) {
-      y.number(0);
-    }
+    fill(y, 599);
     due(21, "ahead() to 600 STEPS", y.ahead(s), 2);
     due(21, "ahead() without a new STEP", y.ahead(s), 0);
     // In f, halfway through its NAMES.
@@ -1061,9 +951,7 @@ public final class PromisesTest {
     int a = z.name(0);
     int b = z.name(0);
     z.body(t, both(z, z.set(0, z.number(1)), z.act(0, a, b)));
-    while (z.count(0) < 599) {
-      z.number(0);
-    }
+    fill(z, 599);
     due(21, "f to 601 STEPS", z.ahead(t), FULL);
     due(21, "told(a, 0)", z.told(a, 0), 1);
     due(21, "told(a, 6)", z.told(a, 6), t);
@@ -1189,9 +1077,7 @@ public final class PromisesTest {
     CallMelt y = new CallMelt();
     y.routine(0);
     y.body(0, y.act(0, y.number(1), y.number(2)));
-    while (y.count(0) < 600) {
-      y.number(0);
-    }
+    fill(y, 600);
     for (int i = 0; i < 12; i++) {
       y.body(0, i % 2 == 0 ? -1 : 2);
     }
@@ -1202,44 +1088,6 @@ public final class PromisesTest {
     }
     due(23, "about(0, 1)", y.about(0, 1), 2);
     due(23, "undo()", y.undo(), NO);
-  }
-
-  /**
-   * Routine 0 calls 1 (SIZE 1), 2 (SIZE 2), .. without PARAMS, as often as told, in that order of
-   * STEPS; the BODY is a chain of PICKS of places of THE ROW, so that each CALL can be counted.
-   */
-  private static CallMelt market(int[] callees) {
-    CallMelt x = new CallMelt();
-    x.routine(0);
-    for (int r = 1; r < 5; r++) {
-      x.routine(0);
-      int step = x.number(r);
-      for (int i = 1; i < r; i++) {
-        step = leave(x, step);
-      }
-      x.body(r, step);
-    }
-    int[] calls = new int[callees.length];
-    for (int i = 0; i < callees.length; i++) {
-      calls[i] = x.call(callees[i], 0, 0, 0);
-    }
-    int all = x.number(0);
-    for (int i = 0; i < callees.length; i++) {
-      int t = reach(x, x.number(i % 8));
-      all = both(x, pick(x, t, calls[i], x.number(0)), all);
-    }
-    x.body(0, all);
-    return x;
-  }
-
-  private static void visit(CallMelt x, int... times) {
-    for (int i = 0; i < times.length; i++) {
-      x.lay(i, 1);
-      for (int k = 0; k < times[i]; k++) {
-        x.run(0, 0, 0, 0, 200);
-      }
-      x.lay(i, 0);
-    }
   }
 
   private static void promise24() {
