@@ -707,6 +707,24 @@ public final class RunEdgesTest extends Tests {
     due("ran(1) behind a BAD one", x.run(0, 0, 0, 0, 2001) + x.ran(1), BAD + 2000);
   }
 
+  /** BOTH of BOTH .., all of which cost nothing. */
+  private static int free(CallMelt x, int high) {
+    return high == 1 ? x.number(1) : both(x, free(x, high - 1), free(x, high - 1));
+  }
+
+  private static void manyStepsThatCostNothing() {
+    says("A RUN has FUEL: a STEP whose COST would be more than what is left is not done");
+    CallMelt x = withRoutine(0);
+    int free = free(x, 8);
+    int loop = loop(x, x.number(1), free);
+    x.body(0, both(x, loop, x.number(5)));
+    due("SIZE", x.about(0, 2), 255 + 4);
+    refused(x, 2000, FUEL, loop, 2000);
+    count(x, "t", x.told(loop, 2), 2000);
+    count(x, "x", free, 2000);
+    count(x, "the last of x", free - 1, 2000);
+  }
+
   private static void noSuchRoutine() {
     says("A ROUTINE is RUN. BAD");
     CallMelt x = new CallMelt();
